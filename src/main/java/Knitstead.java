@@ -753,7 +753,7 @@ public final class Knitstead {
         }
     }
 
-    /** Rows of numbers; it grows to its last row only when that is written, to keep a small work small. */
+    /** Rows of numbers. It grows as rows are written, so that a small work takes little room. */
     private static final class Table {
         private final int facts;
         private final int mostRows;
@@ -766,7 +766,7 @@ public final class Knitstead {
         }
 
         int get(int row, int what) {
-            if (!isInside(row, what)) {
+            if (row < 0 || row >= mostRows || what < 0 || what >= facts) {
                 return 0;
             }
             int cell = row * facts + what;
@@ -774,11 +774,14 @@ public final class Knitstead {
         }
 
         void set(int row, int what, int value) {
-            if (!isInside(row, what)) {
+            if (row < 0 || row >= mostRows || what < 0 || what >= facts) {
                 return;
             }
             int cell = row * facts + what;
-            growFor(cell);
+            if (cell >= cells.length) {
+                int size = Math.max(cells.length * 2, cell + 1);
+                cells = Arrays.copyOf(cells, Math.min(size, mostRows * facts));
+            }
             if (cell >= 0 && cell < cells.length) {
                 cells[cell] = value;
             }
@@ -787,17 +790,6 @@ public final class Knitstead {
         void copyFrom(Table other) {
             int size = Math.min(cells.length, other.cells.length);
             System.arraycopy(other.cells, 0, cells, 0, size);
-        }
-
-        private boolean isInside(int row, int what) {
-            return row >= 0 && row < mostRows && what >= 0 && what < facts;
-        }
-
-        private void growFor(int cell) {
-            if (cell >= cells.length) {
-                int size = Math.max(cells.length * 2, cell + 1);
-                cells = Arrays.copyOf(cells, Math.min(size, mostRows * facts));
-            }
         }
     }
 
