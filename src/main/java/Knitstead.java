@@ -762,28 +762,34 @@ public final class Knitstead {
         Table(int facts, int rowsAtFirst, int mostRows) {
             this.facts = Math.max(1, facts);
             this.mostRows = Math.max(0, mostRows);
-            this.cells = new int[this.facts * Math.max(0, rowsAtFirst)];
+            this.cells = new int[Math.max(0, this.facts * rowsAtFirst)];
+        }
+
+        private int cellOf(int row, int what) {
+            boolean isCell = row >= 0 && row < mostRows && what >= 0 && what < facts;
+            return isCell ? row * facts + what : NONE;
         }
 
         int get(int row, int what) {
-            if (row < 0 || row >= mostRows || what < 0 || what >= facts) {
-                return 0;
-            }
-            int cell = row * facts + what;
+            int cell = cellOf(row, what);
             return cell >= 0 && cell < cells.length ? cells[cell] : 0;
         }
 
         void set(int row, int what, int value) {
-            if (row < 0 || row >= mostRows || what < 0 || what >= facts) {
-                return;
-            }
-            int cell = row * facts + what;
-            if (cell >= cells.length) {
-                int size = Math.max(cells.length * 2, cell + 1);
-                cells = Arrays.copyOf(cells, Math.min(size, mostRows * facts));
-            }
+            int cell = cellOf(row, what);
+            growTo(cell + 1);
             if (cell >= 0 && cell < cells.length) {
                 cells[cell] = value;
+            }
+        }
+
+        private void growTo(int size) {
+            if (size <= cells.length) {
+                return;
+            }
+            int roomy = Math.min(Math.max(size, cells.length * 2), mostRows * facts);
+            if (roomy > cells.length) {
+                cells = Arrays.copyOf(cells, roomy);
             }
         }
 

@@ -142,61 +142,26 @@ public final class AskedTest {
         }
     }
 
-    /** The document's rule, over the answers of the other calls. */
-    private static long digestOf(Knitstead x) {
-        long d = 58309;
-        for (int what = 0; what <= 15; what++) {
-            d = d * 31 + x.many(what);
-        }
-        for (int ball = 0; ball < x.many(0); ball++) {
-            d = d * 31 + x.left(ball);
-        }
-        for (int needle = 0; needle < 2; needle++) {
-            for (int place = 0; place < x.many(3 + needle); place++) {
-                int loop = x.on(needle == 1, place);
-                d = d * 31 + loop;
-                for (int what = 0; what <= 5; what++) {
-                    d = d * 31 + x.ofLoop(loop, what);
-                }
-            }
-        }
-        d = d * 31 + (long) (8 * x.width(false));
-        d = d * 31 + (long) (8 * x.width(true));
-        for (int run = 0; run < x.many(12); run++) {
-            for (int what = 0; what <= 3; what++) {
-                d = d * 31 + x.ofRun(run, what);
-            }
-        }
-        for (int pattern = 0; pattern < x.many(14); pattern++) {
-            for (int what = 0; what <= 4; what++) {
-                d = d * 31 + x.ofPattern(pattern, what);
-            }
-            d = d * 31 + x.would(pattern);
-            d = d * 31 + x.needs(pattern);
-        }
-        return d * 31 + x.best();
-    }
-
     private static void digests() {
         Knitstead x = new Knitstead();
-        Check.due("digest of a new one", digestOf(x), x.digest());
+        Check.due("digest of a new one", Check.digestOf(x), x.digest());
         x = Work.withLeft(9, 300);
         x.buy(20);
         x.pattern(12);
         x.pattern(893);
         x.pattern(6);
-        Check.due("digest", digestOf(x), x.digest());
+        Check.due("digest", Check.digestOf(x), x.digest());
         x.drop();
         x.work(true);
         x.over();
         x.together(2, false);
         x.drop();
         x.latch(0);
-        Check.due("digest of much", digestOf(x), x.digest());
-        Check.due("digest again", digestOf(x), x.digest());
+        Check.due("digest of much", Check.digestOf(x), x.digest());
+        Check.due("digest again", Check.digestOf(x), x.digest());
         x.bind(1);
         x.turn();
-        Check.due("digest after a turn", digestOf(x), x.digest());
+        Check.due("digest after a turn", Check.digestOf(x), x.digest());
     }
 
     public static void main(String[] args) {

@@ -20,9 +20,22 @@ final class Check {
         }
     }
 
-    /** The call throws exactly that, and nothing that can be asked is another afterwards. */
+    /** For a refused call between others. */
+    static boolean isRefused(Knitstead x, Call call) {
+        try {
+            call.on(x);
+            return false;
+        } catch (RuntimeException e) {
+            return true;
+        }
+    }
+
+    /**
+     * The call throws exactly that, and the work is no other afterwards. It asks little, as an object is good for 512
+     * calls alone; Edge asks for all, of objects of its own.
+     */
     static void refused(String what, Class<? extends RuntimeException> due, Knitstead x, Call call) {
-        String before = all(x);
+        String before = brief(x);
         Object got;
         try {
             got = call.on(x);
@@ -30,7 +43,7 @@ final class Check {
             got = e.getClass();
         }
         due(what, due, got);
-        due(what + " changes nothing", before, all(x));
+        due(what + " changes nothing", before, brief(x));
     }
 
     static void badArgument(String what, Knitstead x, Call call) {
@@ -43,6 +56,11 @@ final class Check {
 
     static void badIndex(String what, Knitstead x, Call call) {
         refused(what, IndexOutOfBoundsException.class, x, call);
+    }
+
+    /** What tells most of the work in few calls. */
+    static String brief(Knitstead x) {
+        return x.digest() + " " + x.seen(false) + "/" + x.seen(true);
     }
 
     /** All that the questions answer, in words. */
@@ -77,6 +95,41 @@ final class Check {
                 text.append(fact.of(row, what)).append(' ');
             }
         }
+    }
+
+    /** The document's rule, over the answers of the other calls. */
+    static long digestOf(Knitstead x) {
+        long d = 58309;
+        for (int what = 0; what <= 15; what++) {
+            d = d * 31 + x.many(what);
+        }
+        for (int ball = 0; ball < x.many(0); ball++) {
+            d = d * 31 + x.left(ball);
+        }
+        for (int needle = 0; needle < 2; needle++) {
+            for (int place = 0; place < x.many(3 + needle); place++) {
+                int loop = x.on(needle == 1, place);
+                d = d * 31 + loop;
+                for (int what = 0; what <= 5; what++) {
+                    d = d * 31 + x.ofLoop(loop, what);
+                }
+            }
+        }
+        d = d * 31 + (long) (8 * x.width(false));
+        d = d * 31 + (long) (8 * x.width(true));
+        for (int run = 0; run < x.many(12); run++) {
+            for (int what = 0; what <= 3; what++) {
+                d = d * 31 + x.ofRun(run, what);
+            }
+        }
+        for (int pattern = 0; pattern < x.many(14); pattern++) {
+            for (int what = 0; what <= 4; what++) {
+                d = d * 31 + x.ofPattern(pattern, what);
+            }
+            d = d * 31 + x.would(pattern);
+            d = d * 31 + x.needs(pattern);
+        }
+        return d * 31 + x.best();
     }
 
     static void end() {

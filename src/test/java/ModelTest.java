@@ -6,8 +6,9 @@ import java.util.Map;
 
 /** Long runs of calls, the same each time, that the class and the model must answer alike. */
 public final class ModelTest {
-    private static final int RUNS = 120;
+    private static final int RUNS = 240;
     private static final int CALLS = 512;
+    private static final int LOOKS = 60;
 
     private static final String[] CHANGES = {
         "cast", "work", "work", "work", "over", "together", "slip", "cross", "turn", "turn", "bind", "drop", "latch",
@@ -94,24 +95,31 @@ public final class ModelTest {
         return args;
     }
 
+    /** The digest counts as a call, too: every other run asks it each time, the others seldom, and go further so. */
     private static void run(int number) {
         seed = 1000003L * number + 17;
         pick(2);
         int yarn = number % 3 == 0 ? 60 : number % 3 == 1 ? 600 : 9999;
         Knitstead x = new Knitstead();
         Model model = new Model();
-        for (int call = 0; call < CALLS; call++) {
+        int call = 0;
+        while (call < CALLS - LOOKS - 2) {
             String name = pick(3) > 0 ? CHANGES[pick(CHANGES.length)] : QUESTIONS[pick(QUESTIONS.length)];
             Object[] args = call == 0 ? arguments("buy", yarn) : arguments(name, yarn);
             name = call == 0 ? "buy" : name;
             String where = "run " + number + ", call " + call + ": " + name + Arrays.toString(args);
             Check.due(where, answer(model, name, args), answer(x, name, args));
-            Check.due(where + ", digest", model.digest(), x.digest());
-        }
-        for (int loop = 0; loop < model.many(7); loop++) {
-            for (int what = 0; what < 6; what++) {
-                Check.due("run " + number + ", loop " + loop, model.ofLoop(loop, what), x.ofLoop(loop, what));
+            call++;
+            if (number % 2 == 0 || pick(30) == 0) {
+                Check.due(where + ", digest", model.digest(), x.digest());
+                call++;
             }
+        }
+        Check.due("run " + number + ", digest at last", model.digest(), x.digest());
+        for (int look = 0; look < LOOKS && model.many(7) > 0; look++) {
+            int loop = pick(model.many(7));
+            int what = look % 6;
+            Check.due("run " + number + ", loop " + loop + ", " + what, model.ofLoop(loop, what), x.ofLoop(loop, what));
         }
     }
 

@@ -49,16 +49,16 @@ public final class PatternsTest {
     private static String followed(int loops, int yarn, int steps) {
         Knitstead x = Work.withLeft(loops, yarn + 2 * loops);
         x.pattern(steps);
-        String before = Check.all(x);
+        String before = Check.brief(x);
         int would = x.would(0);
         int needs = x.needs(0);
-        Check.due("would and needs of " + steps + " change nothing", before, Check.all(x));
+        Check.due("would and needs of " + steps + " change nothing", before, Check.brief(x));
         int done = x.follow(0);
         String text = done + ": " + Work.rows(x) + ", " + x.left(0);
         Check.due("would(" + steps + ")", x.many(3) + x.many(4), would);
         Check.due("needs(" + steps + ")", yarn - x.left(0), needs);
         Check.due("undone at once", 2, x.undo());
-        Check.due("as before " + steps, before, Check.all(x));
+        Check.due("as before " + steps, before, Check.brief(x));
         return text;
     }
 

@@ -4,12 +4,12 @@ public final class UndoTest {
     }
 
     private static void takenBack(String what, Knitstead x, Check.Call call) {
-        String before = Check.all(x);
+        String before = Check.brief(x);
         int could = x.many(15);
         call.on(x);
         Check.due("kept after " + what, could + 1, x.many(15));
         Check.due("undo of " + what, could, x.undo());
-        Check.due("as before " + what, before, Check.all(x));
+        Check.due("as before " + what, before, Check.brief(x));
     }
 
     private static void eachCall() {
