@@ -157,8 +157,9 @@ public final class AskedTest {
         x.together(2, false);
         x.drop();
         x.latch(0);
-        Check.due("digest of much", Check.digestOf(x), x.digest());
-        Check.due("digest again", Check.digestOf(x), x.digest());
+        long due = Check.digestOf(x);
+        Check.due("digest of much", due, x.digest());
+        Check.due("digest again", due, x.digest());
         x.bind(1);
         x.turn();
         Check.due("digest after a turn", Check.digestOf(x), x.digest());

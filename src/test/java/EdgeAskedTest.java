@@ -304,6 +304,8 @@ public final class EdgeAskedTest {
         best("left has no loop, new", -1, () -> bare(1));
         best("left has no loop, right some", -1, () -> rightWith(5, 1));
         best("one", 0, () -> withPatterns(3, 1));
+        best("one, left has one loop", 0, () -> withPatterns(1, 1));
+        best("one, left has 24 loops", 0, () -> withPatterns(24, 1));
         best("it does no step", -1, () -> withPatterns(1, 4));
         best("it ends with left not empty", -1, () -> withPatterns(3, 4));
         best("it ends in the middle", -1, () -> withPatterns(3, 12));

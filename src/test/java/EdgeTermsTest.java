@@ -124,7 +124,7 @@ public final class EdgeTermsTest {
         Edge.after("the same again, as it was undone", 3, () -> Work.withRight(3), k -> k.over() + k.undo(), k -> k.over());
     }
 
-    /** 251 times 23 LOOPS, of which all but the last one are bound off each time but the last: 505 calls. */
+    /** 251 times 23 LOOPS are CAST, and each time but the last all but one are bound off: 505 calls. */
     private static Knitstead manyLoops() {
         Knitstead x = Work.withYarn(9999);
         x.buy(9999);
@@ -351,6 +351,46 @@ public final class EdgeTermsTest {
         follows("an over as the 25th", 0, "24 0", 24, 36);
     }
 
+    private static void step(String what, String rows, String seen, int left, int pattern) {
+        Edge.after("step " + what, rows, () -> Work.withPattern(left, pattern), k -> k.follow(0), Work::rows);
+        Edge.after("seen " + what, seen, () -> Work.withPattern(left, pattern), k -> k.follow(0), k -> k.seen(true));
+    }
+
+    /** "1 KNIT, 2 PURL, 3 OVER, 4 two TOGETHER .., 5 .., 6 SLIP, 7 CROSS 1 and 1, 8 three .., 9 a KNIT, an OVER and a KNIT" */
+    private static void steps() {
+        step("1", " | 1", "v", 1, 1);
+        step("2", " | 1", "-", 1, 2);
+        step("3 ahead of a slip", " | 0 1", "vo", 1, 36);
+        step("4 of two", " | 2", "<", 2, 4);
+        step("4 of three", "0 | 3", "<", 3, 4);
+        step("5 of two", " | 2", ">", 2, 5);
+        step("5 of three", "0 | 3", ">", 3, 5);
+        step("6", " | 0", "v", 1, 6);
+        step("7 ahead of slips", " | 0 2 1", "vvv", 3, 7666);
+        step("8 of three", " | 3", "<", 3, 8);
+        step("8 of five", "1 0 | 5", "<", 5, 8);
+        step("9 of two", " | 4 3 2", "vov", 2, 9);
+        step("9 of three", "0 | 5 4 3", "vov", 3, 9);
+    }
+
+    /** "A PATTERN EATS so many LOOPS as come off LEFT by one time of its steps, and MAKES so many as come to RIGHT" */
+    private static void eatsAndMakes() {
+        int[] eats = {0, 1, 1, 0, 2, 2, 1, 0, 3, 2};
+        int[] makes = {0, 1, 1, 1, 1, 1, 1, 0, 1, 3};
+        for (int first = 1; first <= 9; first++) {
+            int f = first;
+            Edge.answers("eats by " + f, eats[f], () -> Work.withPattern(9, f), k -> k.ofPattern(0, 2));
+            Edge.answers("makes by " + f, makes[f], () -> Work.withPattern(9, f), k -> k.ofPattern(0, 3));
+            for (int second = 1; second <= 9; second++) {
+                int s = second;
+                Edge.answers("eats by " + f + s, eats[f] + eats[s], () -> Work.withPattern(9, 10 * f + s),
+                    k -> k.ofPattern(0, 2));
+                Edge.answers("makes by " + f + s, makes[f] + makes[s], () -> Work.withPattern(9, 10 * f + s),
+                    k -> k.ofPattern(0, 3));
+            }
+        }
+    }
+
     /** "9: if one of its three can not be, none of them is" */
     private static void nines() {
         follows("a 9 of two", 1, "0 3", 2, 9);
@@ -419,6 +459,8 @@ public final class EdgeTermsTest {
         latched();
         patterns();
         followed();
+        steps();
+        eatsAndMakes();
         nines();
         followedWithYarn();
         Check.end();
