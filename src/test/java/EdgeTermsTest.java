@@ -150,6 +150,40 @@ public final class EdgeTermsTest {
         Edge.index("behind the last", () -> Work.withRight(23), k -> k.ofLoop(23, 0));
     }
 
+    /** Rows of 24 PURLED LOOPS, 100 above the CAST ones: LOOP n is of ROW n / 24. 204 calls. */
+    private static Knitstead purledRows() {
+        Knitstead x = Work.withPattern(24, 2);
+        x.follow(0);
+        for (int row = 2; row <= 100; row++) {
+            x.turn();
+            x.follow(0);
+        }
+        return x;
+    }
+
+    /** "A LOOP has a KIND ..; the BALL of which it is, the ROW in which it was made, and a HEIGHT": each keeps its own. */
+    private static void factsOfEachLoop() {
+        int loops = 101 * 24;
+        for (int first = 0; first < loops; first += 50) {
+            StringBuilder due = new StringBuilder();
+            int end = Math.min(first + 50, loops);
+            for (int loop = first; loop < end; loop++) {
+                int row = loop / 24;
+                due.append(row == 0 ? "0 0 0 1 0 2" : "2 0 " + row + " " + (row + 1) + " 1 " + (row == 100 ? 1 : 2)).append(", ");
+            }
+            int from = first;
+            Edge.answers("loops from " + first, due.toString(), EdgeTermsTest::purledRows, k -> factsOf(k, from, end));
+        }
+    }
+
+    private static String factsOf(Knitstead x, int first, int end) {
+        StringBuilder text = new StringBuilder();
+        for (int loop = first; loop < end; loop++) {
+            text.append(Work.loop(x, loop)).append(", ");
+        }
+        return text.toString();
+    }
+
     private static Knitstead turned(int times) {
         Knitstead x = Work.withRight(1);
         for (int i = 0; i < times; i++) {
@@ -449,6 +483,7 @@ public final class EdgeTermsTest {
         fullNeedles();
         numbering();
         veryManyLoops();
+        factsOfEachLoop();
         sides();
         heights();
         tips();
